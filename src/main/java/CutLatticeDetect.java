@@ -28,6 +28,7 @@ public final class CutLatticeDetect {
 
     private static final int INDEX_BITS = 3;
     private static final int INDEX_MASK = 7;
+    private static final int TOP_SHIFT = 9;
     private static final int CUT_CODES = 4096;
     private static final int INITIAL_CUT = 0;
 
@@ -239,20 +240,12 @@ public final class CutLatticeDetect {
         return index >= 0 && index <= INDEX_MASK;
     }
 
-    private static int shiftOf(int p) {
-        return (MAX_PROCS - 1 - p) * INDEX_BITS;
-    }
-
     private static int indexIn(int cut, int p) {
-        return (cut >> shiftOf(p)) & INDEX_MASK;
-    }
-
-    private static int slotIn(int cut, int p) {
-        return p * SLOTS_PER_PROC + indexIn(cut, p);
+        return (cut >> (TOP_SHIFT - p * INDEX_BITS)) & INDEX_MASK;
     }
 
     private static int stepFrom(int cut, int p) {
-        return cut + (1 << shiftOf(p));
+        return cut + (1 << (TOP_SHIFT - p * INDEX_BITS));
     }
 
     private static int levelOf(int cut) {
@@ -316,7 +309,8 @@ public final class CutLatticeDetect {
 
     private boolean isConsistent(int cut) {
         for (int p = 0; p < procs; p++) {
-            int slot = slotIn(cut, p);
+            int k = indexIn(cut, p);
+            int slot = slotOf(p, k);
             for (int q = 0; q < procs; q++) {
                 if (stamps[slot * MAX_PROCS + q] > indexIn(cut, q)) {
                     return false;
@@ -336,7 +330,8 @@ public final class CutLatticeDetect {
 
     private boolean isWithinBounds(int cut) {
         for (int p = 0; p < procs; p++) {
-            int value = values[slotIn(cut, p)];
+            int k = indexIn(cut, p);
+            int value = values[slotOf(p, k)];
             if (value < lows[p] || value > highs[p]) {
                 return false;
             }
@@ -347,7 +342,8 @@ public final class CutLatticeDetect {
     private long sumIn(int cut) {
         long sum = 0;
         for (int p = 0; p < procs; p++) {
-            sum += values[slotIn(cut, p)];
+            int k = indexIn(cut, p);
+            sum += values[slotOf(p, k)];
         }
         return sum;
     }

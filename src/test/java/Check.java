@@ -2,6 +2,8 @@ import java.util.Arrays;
 
 /** Counts the answers that are not the ones due, and ends the test with exit code 1 if there were any. */
 final class Check {
+    private static final int MOST_SHOWN = 40;
+
     private final String test;
     private int done = 0;
     private int wrong = 0;
@@ -14,7 +16,9 @@ final class Check {
         done++;
         if (!got.equals(want)) {
             wrong++;
-            System.out.println(test + ": " + call + " answered " + got + ", due is " + want);
+            if (wrong <= MOST_SHOWN) {
+                System.out.println(test + ": " + call + " answered " + got + ", due is " + want);
+            }
         }
     }
 
