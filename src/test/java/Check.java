@@ -3,6 +3,7 @@ import java.util.Arrays;
 /** Counts the answers that are not the ones due, and ends the test with exit code 1 if there were any. */
 final class Check {
     private static final int MOST_SHOWN = 40;
+    private static final int AROUND = 60;
 
     private final String test;
     private int done = 0;
@@ -17,9 +18,28 @@ final class Check {
         if (!got.equals(want)) {
             wrong++;
             if (wrong <= MOST_SHOWN) {
-                System.out.println(test + ": " + call + " answered " + got + ", due is " + want);
+                int from = whereTheyPart(got.toString(), want.toString());
+                System.out.println(test + ": " + call + " answered " + part(got, from) + ", due is " + part(want, from));
             }
         }
+    }
+
+    private static int whereTheyPart(String a, String b) {
+        int i = 0;
+        while (i < a.length() && i < b.length() && a.charAt(i) == b.charAt(i)) {
+            i++;
+        }
+        return i;
+    }
+
+    /** The whole of a short answer, but of a long one only the place where it goes wrong. */
+    private static String part(Object answer, int from) {
+        String all = answer.toString();
+        if (all.length() <= 2 * AROUND) {
+            return all;
+        }
+        int begin = Math.max(0, from - AROUND);
+        return ".. " + all.substring(begin, Math.min(all.length(), from + AROUND)) + " ..";
     }
 
     void duePath(String when, CutLatticeDetect x, int... steps) {
@@ -55,9 +75,14 @@ final class Check {
         }
     }
 
+    /** A test that asked nothing is not good either. */
+    boolean isGood() {
+        return wrong == 0 && done > 0;
+    }
+
     void end() {
         System.out.println(test + ": " + (done - wrong) + " of " + done + " answers are as due");
-        if (wrong != 0 || done == 0) {
+        if (!isGood()) {
             System.exit(1);
         }
     }

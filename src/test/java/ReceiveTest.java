@@ -79,12 +79,12 @@ public final class ReceiveTest {
     }
 
     private static void refusesUnknownProcesses() {
-        for (int p : Scene.NO_INDEX_FOR_THREE) {
+        for (int p : Scene.outside(3)) {
             CutLatticeDetect x = Scene.withResults();
             dueRefused(x, p, 0);
             check.due("message 0 is still there", x.receive(2, 0, 1), 1);
         }
-        for (int p : Scene.NO_INDEX_FOR_FOUR) {
+        for (int p : Scene.outside(4)) {
             CutLatticeDetect x = new CutLatticeDetect(4, 6);
             x.send(0, 1);
             dueRefused(x, p, 0);

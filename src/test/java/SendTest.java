@@ -52,14 +52,14 @@ public final class SendTest {
     }
 
     private static void refusesUnknownProcesses() {
-        for (int p : Scene.NO_INDEX_FOR_THREE) {
+        for (int p : Scene.outside(3)) {
             CutLatticeDetect x = Scene.withResults();
             String before = Scene.seen(x);
             check.due("send(" + p + ", 1) of 3", x.send(p, 1), -1);
             check.due("all that is seen then", Scene.seen(x), before);
             check.due("no message was made", x.send(2, 1), 1);
         }
-        for (int p : Scene.NO_INDEX_FOR_FOUR) {
+        for (int p : Scene.outside(4)) {
             check.due("send(" + p + ", 1) of 4", new CutLatticeDetect(4, 6).send(p, 1), -1);
         }
     }

@@ -70,13 +70,13 @@ public final class SetBoundsTest {
     }
 
     private static void refusesUnknownProcesses() {
-        for (int p : Scene.NO_INDEX_FOR_THREE) {
+        for (int p : Scene.outside(3)) {
             CutLatticeDetect x = Scene.withResults();
             String before = Scene.seen(x);
             check.due("setBounds(" + p + ", 5, 6) of 3", x.setBounds(p, 5, 6), false);
             check.due("all that is seen then", Scene.seen(x), before);
         }
-        for (int p : Scene.NO_INDEX_FOR_FOUR) {
+        for (int p : Scene.outside(4)) {
             check.due("setBounds(" + p + ", 5, 6) of 4", new CutLatticeDetect(4, 6).setBounds(p, 5, 6), false);
         }
     }

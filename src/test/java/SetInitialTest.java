@@ -33,13 +33,13 @@ public final class SetInitialTest {
     }
 
     private static void refusesUnknownProcesses() {
-        for (int p : Scene.NO_INDEX_FOR_THREE) {
+        for (int p : Scene.outside(3)) {
             CutLatticeDetect x = Scene.withResults();
             String before = Scene.seen(x);
             check.due("setInitial(" + p + ", 1) of 3", x.setInitial(p, 1), false);
             check.due("all that is seen then", Scene.seen(x), before);
         }
-        for (int p : Scene.NO_INDEX_FOR_FOUR) {
+        for (int p : Scene.outside(4)) {
             check.due("setInitial(" + p + ", 1) of 4", new CutLatticeDetect(4, 6).setInitial(p, 1), false);
         }
     }

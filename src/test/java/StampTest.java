@@ -49,7 +49,7 @@ public final class StampTest {
                 check.due("stamp(" + p + ", " + k + ", 0)", x.stamp(p, k, 0), -1);
                 check.due("stamp(" + p + ", " + k + ", 1)", x.stamp(p, k, 1), -1);
             }
-            for (int no : Scene.NO_INDEX_FOR_TWO) {
+            for (int no : Scene.outside(2)) {
                 check.due("stamp(" + p + ", 1, " + no + ")", x.stamp(p, 1, no), -1);
                 check.due("stamp(" + no + ", 1, " + p + ")", x.stamp(no, 1, p), -1);
             }
@@ -60,7 +60,7 @@ public final class StampTest {
             check.due("stamp(3, k, 3)", wide.stamp(3, k, 3), k);
             check.due("stamp(3, k + 1, 3)", wide.stamp(3, k + 1, 3), -1);
         }
-        for (int no : Scene.NO_INDEX_FOR_FOUR) {
+        for (int no : Scene.outside(4)) {
             check.due("stamp(3, 6, " + no + ")", wide.stamp(3, 6, no), -1);
             check.due("stamp(" + no + ", 6, 3)", wide.stamp(no, 6, 3), -1);
         }
