@@ -10,8 +10,8 @@ final class FindingSentences {
     private static final int GE = CutLatticeDetect.MODE_SUM_GE;
     private static final int LE = CutLatticeDetect.MODE_SUM_LE;
     private static final List<Supplier<CutLatticeDetect>> SCENES = List.of(Scene::busy, Scene::busyBySum,
-            Scene::busyWithoutResults, Scene::allSent, Scene::withEmptyPath, Scene::withInitialWitness,
-            Scene::crossing);
+            Scene::busyWithoutResults, Scene::busyWithWitness, Scene::busyWithPath, Scene::allSent,
+            Scene::withEmptyPath, Scene::withInitialWitness, Scene::crossing);
 
     private FindingSentences() {
     }
@@ -165,10 +165,8 @@ final class FindingSentences {
 
     private static void possiblyChangesTheWitnessAlone(Check check) {
         for (Supplier<CutLatticeDetect> scene : SCENES) {
-            CutLatticeDetect x = scene.get();
-            x.possibly();
-            Unchanged.dueSamePath(check, "possibly()", x, scene.get());
-            Unchanged.dueSameState(check, "possibly()", x, scene.get());
+            Unchanged.dueSamePath(check, scene, "possibly()", CutLatticeDetect::possibly);
+            Unchanged.dueSameState(check, scene, "possibly()", CutLatticeDetect::possibly);
         }
     }
 
@@ -216,6 +214,7 @@ final class FindingSentences {
                 Unchanged.dueByGetter(check, scene, "witness(" + p + ")", x -> x.witness(of));
             }
         }
+        check.dueWitness("of the busy scene", Scene.busy(), 1, 0, 0, 0);
     }
 
     /** Calls on the busy scenes that leave the results alone: getters, and every kind of refused call. */
@@ -328,7 +327,7 @@ final class FindingSentences {
 
     private static void everyProcessOccursAsOften(Check check) {
         for (int number = 0; number < 7 * 7; number++) {
-            int[] n = {number % 7, 6 - number / 7, number % 3, (number / 7) % 4};
+            int[] n = {number % 7, 6 - number / 7, number % 5 + 2, (number / 7) % 4 + 3};
             CutLatticeDetect x = new CutLatticeDetect(4, 6);
             for (int p = 0; p < 4; p++) {
                 for (int k = 1; k <= n[p]; k++) {
@@ -350,10 +349,8 @@ final class FindingSentences {
 
     private static void definitelyChangesThePathAlone(Check check) {
         for (Supplier<CutLatticeDetect> scene : SCENES) {
-            CutLatticeDetect x = scene.get();
-            x.definitely();
-            Unchanged.dueSameWitness(check, "definitely()", x, scene.get());
-            Unchanged.dueSameState(check, "definitely()", x, scene.get());
+            Unchanged.dueSameWitness(check, scene, "definitely()", CutLatticeDetect::definitely);
+            Unchanged.dueSameState(check, scene, "definitely()", CutLatticeDetect::definitely);
         }
     }
 
@@ -505,6 +502,7 @@ final class FindingSentences {
                 Unchanged.dueByGetter(check, scene, "pathStep(" + i + ")", x -> x.pathStep(i));
             }
         }
+        check.duePath("of the busy scene", Scene.busy(), 2, 0, 0, 0, 1);
     }
 
     private static void pathStays(Check check) {

@@ -5,6 +5,7 @@ import java.util.function.Supplier;
 /** Sentences of promises 5 to 7: local, send and receive. */
 final class ReportingSentences {
     private static final List<Supplier<CutLatticeDetect>> SCENES = List.of(Scene::busy, Scene::busyBySum);
+    private static final int[] FAR = {Scene.MIN, -1, 4, 5, Scene.MAX};
 
     private ReportingSentences() {
     }
@@ -145,18 +146,17 @@ final class ReportingSentences {
     private static void localRefusedChangesNothing(Check check) {
         for (Supplier<CutLatticeDetect> scene : SCENES) {
             Unchanged.dueByRefused(check, scene, "local(0, 9), full", x -> x.local(0, 9), -1);
-            for (int p : Scene.outside(4)) {
+            for (int p : FAR) {
                 Unchanged.dueByRefused(check, scene, "local(" + p + ", 9)", x -> x.local(p, 9), -1);
             }
         }
     }
 
     private static void localAddsOne(Check check) {
-        CutLatticeDetect x = Scene.busy();
-        for (int p = 0; p < 4; p++) {
-            int before = x.eventCount(p);
+        for (int p = 1; p < 4; p++) {
+            CutLatticeDetect x = Scene.busy();
             x.local(p, 1);
-            check.due("eventCount(" + p + ")", x.eventCount(p), p == 0 ? before : before + 1);
+            dueCounts(check, x, 3, p == 1 ? 2 : 1, p == 2 ? 2 : 1, p == 3 ? 1 : 0);
         }
     }
 
@@ -275,7 +275,7 @@ final class ReportingSentences {
     private static void sendRefusedChangesNothing(Check check) {
         for (Supplier<CutLatticeDetect> scene : SCENES) {
             Unchanged.dueByRefused(check, scene, "send(0, 9), full", x -> x.send(0, 9), -1);
-            for (int p : Scene.outside(4)) {
+            for (int p : FAR) {
                 Unchanged.dueByRefused(check, scene, "send(" + p + ", 9)", x -> x.send(p, 9), -1);
             }
         }
@@ -448,7 +448,7 @@ final class ReportingSentences {
             check.due("eventCount(3)", x.eventCount(3), 0);
             check.due("the last of " + sent, x.receive(3, sent - 1, 9), sent == 0 ? -1 : 1);
         }
-        for (int msg : Scene.outside(3)) {
+        for (int msg : new int[] {Scene.MIN, -1, 3, 4, 15, 16, Scene.MAX}) {
             Unchanged.dueByRefused(check, Scene::busy, "receive(3, " + msg + ", 9)", x -> x.receive(3, msg, 9), -1);
         }
     }
@@ -486,7 +486,7 @@ final class ReportingSentences {
 
     private static void receiveRefusedChangesNothing(Check check) {
         for (Supplier<CutLatticeDetect> scene : SCENES) {
-            for (int p : Scene.outside(4)) {
+            for (int p : FAR) {
                 Unchanged.dueByRefused(check, scene, "receive(" + p + ", 1, 9)", x -> x.receive(p, 1, 9), -1);
             }
             Unchanged.dueByRefused(check, scene, "receive(0, 2, 9), full", x -> x.receive(0, 2, 9), -1);

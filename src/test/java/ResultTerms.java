@@ -215,5 +215,7 @@ final class ResultTerms {
                 Unchanged.dueByGetter(check, scene, "pathStep(" + i + ")", x -> x.pathStep(i));
             }
         }
+        check.dueWitness("of the busy scene", Scene.busy(), 1, 0, 0, 0);
+        check.duePath("of the busy scene", Scene.busy(), 2, 0, 0, 0, 1);
     }
 }

@@ -66,6 +66,18 @@ final class Scene {
         return x;
     }
 
+    static CutLatticeDetect busyWithWitness() {
+        CutLatticeDetect x = busyWithoutResults();
+        x.possibly();
+        return x;
+    }
+
+    static CutLatticeDetect busyWithPath() {
+        CutLatticeDetect x = busyWithoutResults();
+        x.definitely();
+        return x;
+    }
+
     static CutLatticeDetect busyWithoutResults() {
         CutLatticeDetect x = new CutLatticeDetect(4, 3);
         x.setInitial(1, 2);

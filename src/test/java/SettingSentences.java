@@ -9,6 +9,7 @@ final class SettingSentences {
     private static final int FALSE = CutLatticeDetect.CUT_FALSE;
     private static final int TRUE = CutLatticeDetect.CUT_TRUE;
     private static final List<Supplier<CutLatticeDetect>> SCENES = List.of(Scene::busy, Scene::busyBySum);
+    private static final int[] FAR = {Scene.MIN, -1, 4, 5, Scene.MAX};
 
     private SettingSentences() {
     }
@@ -234,15 +235,14 @@ final class SettingSentences {
             for (int room = 1; room <= 6; room++) {
                 CutLatticeDetect x = new CutLatticeDetect(procs, room);
                 new CutLatticeDetect(5 - procs, 7 - room);
-                x.setPredicate(GE, 100);
-                x.definitely();
-                for (int i = 0; i < 8; i++) {
+                for (int i = 0; i < 9; i++) {
                     for (int p = -1; p <= 4; p++) {
+                        x.setBounds(p, i % 2, 9);
+                        x.setPredicate(i % 3, i - 4);
+                        x.possibly();
+                        x.definitely();
                         x.local(p, i);
-                        x.setBounds(p, i, i);
                     }
-                    x.possibly();
-                    x.definitely();
                 }
                 for (int p = -1; p <= 4; p++) {
                     check.due("eventCount(" + p + ")", x.eventCount(p), p >= 0 && p < procs ? room : -1);
@@ -271,8 +271,10 @@ final class SettingSentences {
                 check.due("setInitial(" + p + ", 5)", x.setInitial(p, 5), true);
             }
         }
-        for (int p : Scene.outside(4)) {
-            Unchanged.dueByRefused(check, Scene::busy, "setInitial(" + p + ", 9)", x -> x.setInitial(p, 9), false);
+        for (Supplier<CutLatticeDetect> scene : SCENES) {
+            for (int p : FAR) {
+                Unchanged.dueByRefused(check, scene, "setInitial(" + p + ", 9)", x -> x.setInitial(p, 9), false);
+            }
         }
     }
 
@@ -315,10 +317,8 @@ final class SettingSentences {
 
     private static void initialAlone(Check check) {
         for (Supplier<CutLatticeDetect> scene : SCENES) {
-            CutLatticeDetect x = scene.get();
-            x.setInitial(3, 100);
-            x.setInitial(3, 4);
-            Unchanged.dueSameState(check, "setInitial there and back", x, scene.get());
+            Unchanged.dueSameState(check, scene, "setInitial there and back",
+                    x -> x.setInitial(3, 100) && x.setInitial(3, 4));
         }
     }
 
@@ -344,8 +344,10 @@ final class SettingSentences {
                 check.due("setBounds(" + p + ", 0, 6)", x.setBounds(p, 0, 6), true);
             }
         }
-        for (int p : Scene.outside(4)) {
-            Unchanged.dueByRefused(check, Scene::busy, "setBounds(" + p + ", 9, 9)", x -> x.setBounds(p, 9, 9), false);
+        for (Supplier<CutLatticeDetect> scene : SCENES) {
+            for (int p : FAR) {
+                Unchanged.dueByRefused(check, scene, "setBounds(" + p + ", 9, 9)", x -> x.setBounds(p, 9, 9), false);
+            }
         }
     }
 
@@ -414,10 +416,16 @@ final class SettingSentences {
 
     private static void boundsAlone(Check check) {
         for (Supplier<CutLatticeDetect> scene : SCENES) {
-            CutLatticeDetect x = scene.get();
-            x.setBounds(0, 100, -100);
-            x.setBounds(0, 1, 2);
-            Unchanged.dueSameState(check, "setBounds there and back", x, scene.get());
+            Unchanged.dueSameState(check, scene, "setBounds there and back",
+                    x -> x.setBounds(0, 100, -100) && x.setBounds(0, 1, 2));
+        }
+        for (int p = 0; p < 4; p++) {
+            for (int other = 0; other < 4; other++) {
+                CutLatticeDetect x = new CutLatticeDetect(4, 6);
+                x.setBounds(other, 1, 1);
+                x.setBounds(p, 0, 0);
+                check.due("bounds of " + p + " after those of " + other, x.countSatisfying(), p == other ? 1 : 0);
+            }
         }
     }
 
@@ -435,6 +443,9 @@ final class SettingSentences {
 
     private static void noSuchMode(Check check) {
         for (int mode : Scene.outside(3)) {
+            check.due("setPredicate(" + mode + ", 8)", new CutLatticeDetect(2, 2).setPredicate(mode, 8), false);
+        }
+        for (int mode : new int[] {Scene.MIN, -1, 3, 4, Scene.MAX}) {
             for (Supplier<CutLatticeDetect> scene : SCENES) {
                 Unchanged.dueByRefused(check, scene, "setPredicate(" + mode + ", 8)", x -> x.setPredicate(mode, 8),
                         false);
