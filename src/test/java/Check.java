@@ -19,7 +19,8 @@ final class Check {
             wrong++;
             if (wrong <= MOST_SHOWN) {
                 int from = whereTheyPart(got.toString(), want.toString());
-                System.out.println(test + ": " + call + " answered " + part(got, from) + ", due is " + part(want, from));
+                System.out.println(test + ": " + call + " answered " + part(got, from)
+                        + ", due is " + part(want, from));
             }
         }
     }
